@@ -1,0 +1,221 @@
+import java.util.Random;
+
+/** Compares the class with the model over streams that are mostly right, with a fixed seed. */
+public final class RandomRunsTest {
+    private static final int RUNS = 1200;
+    private static final int[] FAULTS = new int[10];
+    private static int pictures = 0;
+    private static int lines = 0;
+
+    private final Random random;
+    private final BlockPictures x = new BlockPictures();
+    private final Model model = new Model();
+    private final String name;
+
+    private RandomRunsTest(int run) {
+        random = new Random(77000 + run);
+        name = "run " + run;
+    }
+
+    public static void main(String[] args) {
+        for (int run = 0; run < RUNS && Check.allRight(); run++) {
+            new RandomRunsTest(run).play();
+        }
+        Check.due("pictures came", pictures > 3000, true);
+        Check.due("lines were smoothed", lines > 10000, true);
+        for (int fault = 1; fault <= 9; fault++) {
+            System.out.println("fault " + fault + ": " + FAULTS[fault] + " times");
+            Check.due("fault " + fault + " came", FAULTS[fault] > 0, true);
+        }
+        Check.finish();
+    }
+
+    private void play() {
+        boolean bare = true;
+        for (int step = 0; step < 24; step++) {
+            int choice = random.nextInt(40);
+            if (bare && choice > 1 || choice == 2) {
+                unit(random.nextInt(4) << 5 | 7, UnitBits.parameters(1 + random.nextInt(4), random.nextInt(12)));
+                bare = false;
+            } else if (choice == 3) {
+                Check.due(name + " end()", x.end(), model.end());
+                bare = true;
+            } else if (choice == 4) {
+                x.reset();
+                model.reset();
+                bare = true;
+            } else if (choice == 5) {
+                unit(random.nextInt(160), new UnitBits().bits(random.nextInt(), 30));
+            } else if (choice == 6) {
+                noise(random.nextInt(12));
+            } else if (choice == 7) {
+                longUnit(315 + random.nextInt(7));
+            } else {
+                picture(model.references() == 0 || random.nextInt(10) == 0);
+            }
+            compare();
+            if (model.fault() != 0) {
+                FAULTS[model.fault()]++;
+                Check.due(name + " end()", x.end(), model.end());
+                x.reset();
+                model.reset();
+                bare = true;
+            }
+        }
+        Check.due(name + " end()", x.end(), model.end());
+        compare();
+    }
+
+    private void noise(int count) {
+        for (int k = 0; k < count; k++) {
+            feed(random.nextInt(3) == 0 ? random.nextInt(256) : random.nextInt(4), 1);
+        }
+    }
+
+    private void longUnit(int length) {
+        UnitBits bits = new UnitBits();
+        for (int k = 1; k < length; k++) {
+            bits.bits(1 + random.nextInt(255), 8);
+        }
+        unit(8, bits);
+    }
+
+    private void feed(int word, int count) {
+        Check.due(name + " feed(" + word + ", " + count + ")", x.feed(word, count), model.feed(word, count));
+    }
+
+    private void unit(int head, UnitBits bits) {
+        int[] bytes = bits.unit(head);
+        if (random.nextInt(25) == 0) {
+            bytes[random.nextInt(bytes.length)] ^= 1 << random.nextInt(8);
+        }
+        if (random.nextInt(40) == 0) {
+            bytes = java.util.Arrays.copyOf(bytes, 1 + random.nextInt(bytes.length));
+        }
+        int[] framed = UnitBits.framed(bytes);
+        if (random.nextInt(60) == 0) {
+            framed[random.nextInt(framed.length)] = random.nextInt(4);
+        }
+        for (int at = 0; at < framed.length;) {
+            int count = Math.min(1 + random.nextInt(4), framed.length - at);
+            int word = random.nextInt(1 << 8);
+            for (int k = 0; k < count; k++) {
+                word = word << 8 | framed[at++];
+            }
+            feed(word, count);
+        }
+        if (random.nextInt(3) > 0) {
+            feed(random.nextInt(2), 3);
+        }
+    }
+
+    private void picture(boolean key) {
+        int rank = random.nextInt(3);
+        int references = Math.max(1, model.references());
+        UnitBits bits = new UnitBits().number(random.nextInt(random.nextInt(60) == 0 ? 300 : 24));
+        bits.signed(random.nextInt(6) == 0 ? random.nextInt(5) - 2 : 0);
+        int a = 0;
+        if (!key) {
+            a = random.nextInt(references + (random.nextInt(60) == 0 ? 1 : 0));
+            bits.number(a);
+            index(bits, references);
+            if (rank > 0) {
+                index(bits, references);
+            }
+        }
+        int middle = 20 + random.nextInt(220);
+        int calm = random.nextInt(4);
+        for (int n = 0; n < 16; n++) {
+            block(bits, n, key, a, middle, calm);
+        }
+        if (random.nextInt(80) == 0) {
+            bits.raw("0110");
+        }
+        unit(rank << 5 | (key ? 5 : 1), bits);
+    }
+
+    private void index(UnitBits bits, int count) {
+        if (random.nextInt(3) > 0) {
+            bits.raw("0");
+        } else {
+            bits.raw("1").number(random.nextInt(count + (random.nextInt(60) == 0 ? 1 : 0)));
+        }
+    }
+
+    private void block(UnitBits bits, int n, boolean key, int a, int middle, int calm) {
+        int kind = key ? 2 : random.nextInt(8);
+        if (!key && kind > 2 && calm > 1) {
+            bits.raw("0");
+        } else if (kind == 2) {
+            bits.raw(key ? "" : "11");
+            intra(bits, n, middle, calm);
+        } else {
+            bits.raw("10");
+            if (a > 0) {
+                bits.number(random.nextInt(a + 1 + (random.nextInt(300) == 0 ? 1 : 0)));
+            }
+            int reach = random.nextInt(6) == 0 ? 30 : 5;
+            bits.signed(random.nextInt(2 * reach) - reach).signed(random.nextInt(2 * reach) - reach);
+            residual(bits, calm);
+        }
+    }
+
+    private void intra(UnitBits bits, int n, int middle, int calm) {
+        int mode = random.nextInt(4);
+        boolean possible = (mode != 2 || n >= 4) && (mode != 3 || n % 4 > 0);
+        if (!possible && random.nextInt(60) > 0) {
+            mode = 1;
+        }
+        bits.bits(mode, 2);
+        for (int k = 0; k < 16 && mode == 0; k++) {
+            int value = calm == 0 ? random.nextInt(256) : middle + random.nextInt(3 * calm) - calm;
+            bits.bits(Math.max(0, Math.min(255, value)), 8);
+        }
+        if (mode != 0) {
+            residual(bits, calm);
+        }
+    }
+
+    private void residual(UnitBits bits, int calm) {
+        if (random.nextInt(2 + calm) > 0) {
+            bits.raw("0");
+            return;
+        }
+        int count = 1 + random.nextInt(random.nextInt(5) == 0 ? 16 : 3);
+        bits.raw("1").number(count - 1);
+        int spare = 16 - count + (random.nextInt(150) == 0 ? 2 : 0);
+        for (int k = 0; k < count; k++) {
+            int run = random.nextInt(3) == 0 ? random.nextInt(spare + 1) : 0;
+            spare -= run;
+            int level = 1 + random.nextInt(random.nextInt(4) == 0 ? 40 : 4);
+            level = random.nextInt(200) == 0 ? 1023 : level;
+            level = random.nextInt(600) == 0 ? 0 : level;
+            bits.number(run).signed(random.nextBoolean() ? level : -level);
+        }
+    }
+
+    private void compare() {
+        pictures += model.smoothed() >= 0 && model.fault() == 0 ? 1 : 0;
+        lines += model.smoothed();
+        Check.due(name + " fault()", x.fault(), model.fault());
+        Check.due(name + " units()", x.units(), model.units());
+        Check.due(name + " shown()", x.shown(), model.shown());
+        Check.due(name + " held()", x.held(), model.held());
+        Check.due(name + " smoothed()", x.smoothed(), model.smoothed());
+        for (int k = -1; k <= 8; k++) {
+            Check.due(name + " order(" + k + ")", x.order(k), model.order(k));
+        }
+        for (int i = -1; i <= 256; i++) {
+            Check.due(name + " sample(" + i + ")", x.sample(i), model.sample(i));
+        }
+        for (int n = -1; n <= 16; n++) {
+            Check.due(name + " vector(" + n + ")", x.vector(n), model.vector(n));
+        }
+        for (int k = -1; k <= 4; k++) {
+            Check.due(name + " heldState(" + k + ")", x.heldState(k), model.heldState(k));
+            for (int i = -1; i <= 256; i++) {
+                Check.due(name + " heldSample(" + k + ", " + i + ")", x.heldSample(k, i), model.heldSample(k, i));
+            }
+        }
+    }
+}
