@@ -1,0 +1,188 @@
+import java.util.Random;
+
+/** Promises 15 to 18: draw, write, written, pass. */
+public final class WriterTest {
+    public static void main(String[] args) {
+        draws();
+        parameters();
+        keyPictures();
+        bytesBetweenZeros();
+        wrongArguments();
+        passes();
+        passesIntoUnits();
+        Check.finish();
+    }
+
+    private static void bytes(String what, BlockPictures x, int count, int[] want) {
+        Check.due(what + ": count", count, want.length);
+        for (int k = 0; k < want.length; k++) {
+            Check.due(what + ": written(" + k + ")", x.written(k), want[k]);
+        }
+        Check.due(what + ": written behind", x.written(want.length), -1);
+        Check.due(what + ": written(-1)", x.written(-1), -1);
+        Check.due(what + ": written(least)", x.written(Integer.MIN_VALUE), -1);
+        Check.due(what + ": written(most)", x.written(Integer.MAX_VALUE), -1);
+    }
+
+    private static int[] source(BlockPictures x, int order) {
+        x.write(7, 0, 0);
+        x.reset();
+        x.pass();
+        x.write(5, order, 0);
+        x.pass();
+        x.end();
+        int[] samples = new int[256];
+        for (int i = 0; i < 256; i++) {
+            samples[i] = x.sample(i);
+        }
+        return samples;
+    }
+
+    private static void draws() {
+        BlockPictures x = new BlockPictures();
+        int[][] wrong = {{-1, 0}, {256, 0}, {0, -1}, {0, 256}, {Integer.MIN_VALUE, 5}, {5, Integer.MAX_VALUE}};
+        for (int[] row : wrong) {
+            Check.due("draw(" + row[0] + ", " + row[1] + ")", x.draw(row[0], row[1]), false);
+        }
+        Check.due("draw(0, 255)", x.draw(0, 255), true);
+        Check.due("draw(255, 254)", x.draw(255, 254), true);
+        Check.due("draw(18, 9)", x.draw(18, 9), true);
+        Check.due("draw(18, 90)", x.draw(18, 90), true);
+        Check.due("draw(0, 256) again", x.draw(0, 256), false);
+        int[] samples = source(x, 1);
+        for (int i = 0; i < 256; i++) {
+            int want = i == 0 ? 255 : i == 255 ? 254 : i == 18 ? 90 : 0;
+            Check.due("sample(" + i + ")", samples[i], want);
+        }
+    }
+
+    private static void parameters() {
+        BlockPictures x = new BlockPictures();
+        bytes("write(7, 1, 3)", x, x.write(7, 1, 3), new int[] {0, 0, 1, 39, 0x44, 0x80});
+        bytes("write(7, 0, 0)", x, x.write(7, 0, 0), new int[] {0, 0, 1, 39, 0xE0});
+        bytes("write(7, 3, 11)", x, x.write(7, 3, 11), new int[] {0, 0, 1, 39, 0x20, 0xC8});
+        for (int a = 0; a < 4; a++) {
+            for (int b = 0; b < 12; b++) {
+                int[] want = UnitBits.framed(UnitBits.parameters(a + 1, b).unit(39));
+                bytes("write(7, " + a + ", " + b + ")", x, x.write(7, a, b), want);
+            }
+        }
+    }
+
+    private static void keyPictures() {
+        // Without samples: 1010 behind three zeros, 1, then zeros up to the last bit.
+        BlockPictures x = new BlockPictures();
+        int[] want = new int[5 + 260 + 129 + 1];
+        want[2] = 1;
+        want[3] = 101;
+        want[4] = 0x15;
+        for (int k = 7; k < want.length - 1; k += 3) {
+            want[k] = 3;
+        }
+        want[want.length - 1] = 0x80;
+        bytes("write(5, 9, 0)", x, x.write(5, 9, 0), want);
+        bytes("b is not looked at", x, x.write(5, 9, Integer.MIN_VALUE), want);
+        int[] orders = {0, 1, 2, 126, 127, 128, 254, 255};
+        for (int order : orders) {
+            BlockPictures y = new BlockPictures();
+            int[] samples = new int[256];
+            for (int i = 0; i < 256; i++) {
+                samples[i] = (i * 37 + order) % 256;
+                y.draw(i, samples[i]);
+            }
+            bytes("write(5, " + order + ", 1)", y, y.write(5, order, 1), expected(samples, order));
+            int[] shown = source(y, order);
+            for (int i = 0; i < 256; i++) {
+                Check.due("sample(" + i + ") of order " + order, shown[i], samples[i]);
+            }
+            Check.due("order(0)", y.order(0), order);
+        }
+    }
+
+    private static int[] expected(int[] samples, int order) {
+        UnitBits bits = UnitBits.key(order, 0);
+        for (int n = 0; n < 16; n++) {
+            bits.raw("00");
+            for (int k = 0; k < 16; k++) {
+                bits.bits(samples[16 * (4 * (n / 4) + k / 4) + 4 * (n % 4) + k % 4], 8);
+            }
+        }
+        return UnitBits.framed(bits.unit(101));
+    }
+
+    private static void bytesBetweenZeros() {
+        Random random = new Random(5);
+        int[] values = {0, 0, 0, 0, 0, 0, 1, 2, 3, 4, 16, 32, 48, 64, 128, 192, 255};
+        for (int round = 0; round < 300; round++) {
+            BlockPictures x = new BlockPictures();
+            int[] samples = new int[256];
+            for (int i = 0; i < 256; i++) {
+                samples[i] = values[random.nextInt(values.length)];
+                x.draw(i, samples[i]);
+            }
+            int order = random.nextInt(256);
+            int count = x.write(5, order, round);
+            bytes("round " + round, x, count, expected(samples, order));
+            for (int k = 3; k < count; k++) {
+                boolean behindZeros = x.written(k - 1) == 0 && x.written(k - 2) == 0;
+                Check.due("a mark at " + k, behindZeros && x.written(k) < 3, false);
+            }
+        }
+    }
+
+    private static void wrongArguments() {
+        BlockPictures x = new BlockPictures();
+        Check.due("write(7, 4, 0) first", x.write(7, 4, 0), -1);
+        Check.due("nothing is written", x.written(0), -1);
+        x.write(7, 1, 3);
+        int[][] wrong = {{7, -1, 0}, {7, 4, 0}, {7, 0, -1}, {7, 0, 12}, {5, -1, 0}, {5, 256, 0}, {0, 0, 0}, {1, 0, 0},
+            {6, 0, 0}, {39, 0, 0}, {101, 0, 0}, {-5, 0, 0}, {7, Integer.MIN_VALUE, 0}, {7, 0, Integer.MAX_VALUE},
+            {5, Integer.MAX_VALUE, 0}};
+        for (int[] row : wrong) {
+            String what = "write(" + row[0] + ", " + row[1] + ", " + row[2] + ")";
+            bytes(what, x, x.write(row[0], row[1], row[2]) == -1 ? 6 : 0, new int[] {0, 0, 1, 39, 0x44, 0x80});
+        }
+    }
+
+    private static void passes() {
+        BlockPictures x = new BlockPictures();
+        Check.due("pass() with nothing written", x.pass(), 0);
+        x.write(7, 0, 0);
+        Check.due("pass() begins a unit", x.pass(), 0);
+        Check.due("pass() again ends it", x.pass(), 1);
+        Check.due("units()", x.units(), 1);
+        x.write(5, 3, 0);
+        Check.due("pass() ends the second one", x.pass(), 1);
+        Check.due("end() shows", x.end(), 1);
+        Check.due("units()", x.units(), 3);
+        x.pass();
+        Check.due("pass() ends one with a fault", x.pass(), 1);
+        Check.due("fault()", x.fault(), 7);
+        Check.due("pass() when stopped", x.pass(), 0);
+        x.reset();
+        Check.due("pass() after reset()", x.pass(), 0);
+        Check.due("the written bytes stay", x.written(3), 101);
+    }
+
+    private static void passesIntoUnits() {
+        // What is fed before has its part: one zero more ends the unit before the start code.
+        BlockPictures x = new BlockPictures();
+        x.write(7, 2, 2);
+        UnitBits.feed(x, 0, 0, 1, 8, 0);
+        Check.due("behind a zero", x.pass(), 1);
+        UnitBits.feed(x, 0, 0);
+        Check.due("behind two zeros", x.pass(), 1);
+        Check.due("fault()", x.fault(), 0);
+        Check.due("units()", x.units(), 2);
+        // A unit that grows too long stops pass() on its way.
+        x = new BlockPictures();
+        UnitBits.feed(x, 0, 0, 1);
+        for (int k = 0; k < 319; k++) {
+            UnitBits.feed(x, 8);
+        }
+        x.write(7, 0, 0);
+        Check.due("too long", x.pass(), 0);
+        Check.due("fault()", x.fault(), 3);
+        Check.due("units()", x.units(), 0);
+    }
+}
