@@ -229,9 +229,9 @@ public final class BlockPictures {
         return v < 0 ? 0 : v > 255 ? 255 : v;
     }
 
-    /** Where the first sample of block n stands in a picture. */
-    private static int cornerOf(int n) {
-        return SIDE * 4 * (n / 4) + 4 * (n % 4);
+    /** The number in a picture of sample k of block n, k counting row by row. */
+    private static int sampleNumber(int n, int k) {
+        return SIDE * (4 * (n / 4) + k / 4) + 4 * (n % 4) + k % 4;
     }
 
     /** Finds the units in the bytes and gathers their bytes. */
@@ -510,8 +510,8 @@ public final class BlockPictures {
         /** The taps along the rows of the window, for the four columns of the block. */
         final int[] across = new int[4 * WIDE];
 
-        void predict(int[] from, int[] into, int n, int vx, int vy) {
-            fillWindow(from, 4 * (n % 4) + (vx >> 1) - 2, 4 * (n / 4) + (vy >> 1) - 2);
+        void predict(Picture from, Picture into, int n, int vx, int vy) {
+            fillWindow(from.samples, 4 * (n % 4) + (vx >> 1) - 2, 4 * (n / 4) + (vy >> 1) - 2);
             boolean oddX = (vx & 1) == 1;
             boolean oddY = (vy & 1) == 1;
             if (oddX && oddY) {
@@ -529,7 +529,7 @@ public final class BlockPictures {
                 } else if (oddY) {
                     value = limit((taps(window, at, WIDE) + 16) >> 5);
                 }
-                into[cornerOf(n) + SIDE * y + x] = value;
+                into.samples[sampleNumber(n, k)] = value;
             }
         }
 
@@ -570,7 +570,7 @@ public final class BlockPictures {
                 int across = left ? 1 : SIDE;
                 int along = left ? SIDE : 1;
                 for (int k = 0; k < 4 && strength > 0; k++) {
-                    if (smoothLine(samples, cornerOf(n) + k * along, across, strength, q)) {
+                    if (smoothLine(samples, sampleNumber(n, 0) + k * along, across, strength, q)) {
                         lines++;
                     }
                 }
@@ -640,7 +640,6 @@ public final class BlockPictures {
                 bits.fail(FAULT_RANGE);
             }
             released = NONE;
-            lastUsed = 0;
             if (!key) {
                 readUseOfReferences(rank);
             }
@@ -671,14 +670,14 @@ public final class BlockPictures {
                 boolean more = !copied;
                 if (rows.inter[n]) {
                     readInter(n, copied);
-                    predictInter(n);
+                    motion.predict(references[rows.reference[n]], picture, n, rows.vx[n], rows.vy[n]);
                 } else {
                     more = readIntra(n);
                 }
                 rows.residual[n] = more && bits.flag();
                 if (rows.residual[n]) {
                     readResidual();
-                    addResidual(cornerOf(n));
+                    addResidual(n);
                 }
             }
         }
@@ -687,7 +686,9 @@ public final class BlockPictures {
         private boolean readIntra(int n) {
             int mode = bits.bits(2);
             if (mode == 0) {
-                readPlain(n);
+                for (int k = 0; k < 16; k++) {
+                    picture.samples[sampleNumber(n, k)] = bits.bits(8);
+                }
             } else if (mode == 1) {
                 predictMean(n);
             } else if (mode == 2 && n >= 4) {
@@ -700,14 +701,8 @@ public final class BlockPictures {
             return mode != 0;
         }
 
-        private void readPlain(int n) {
-            for (int k = 0; k < 16; k++) {
-                picture.samples[cornerOf(n) + SIDE * (k / 4) + k % 4] = bits.bits(8);
-            }
-        }
-
         private void predictMean(int n) {
-            int corner = cornerOf(n);
+            int corner = sampleNumber(n, 0);
             boolean above = n >= 4;
             boolean left = n % 4 > 0;
             int sum = 0;
@@ -722,18 +717,16 @@ public final class BlockPictures {
                 mean = (sum + 2) >> 2;
             }
             for (int k = 0; k < 16; k++) {
-                picture.samples[corner + SIDE * (k / 4) + k % 4] = mean;
+                picture.samples[sampleNumber(n, k)] = mean;
             }
         }
 
         /** Copies a line beside the block: from the corner by start, then a step for each row and column. */
         private void predictFrom(int n, int start, int rowStep, int columnStep) {
-            int corner = cornerOf(n);
+            int from = sampleNumber(n, 0) + start;
             for (int k = 0; k < 16; k++) {
-                int y = k / 4;
-                int x = k % 4;
-                picture.samples[corner + SIDE * y + x]
-                        = picture.samples[corner + start + rowStep * y + columnStep * x];
+                picture.samples[sampleNumber(n, k)]
+                        = picture.samples[from + rowStep * (k / 4) + columnStep * (k % 4)];
             }
         }
 
@@ -755,11 +748,6 @@ public final class BlockPictures {
                 return 0;
             }
             return part;
-        }
-
-        private void predictInter(int n) {
-            int[] from = references[rows.reference[n]].samples;
-            motion.predict(from, picture.samples, n, rows.vx[n], rows.vy[n]);
         }
 
         private void readResidual() {
@@ -785,12 +773,10 @@ public final class BlockPictures {
             return weight * (4 + q % 4) << (q / 4);
         }
 
-        private void addResidual(int corner) {
-            for (int y = 0; y < 4; y++) {
-                for (int x = 0; x < 4; x++) {
-                    int at = corner + SIDE * y + x;
-                    picture.samples[at] = limit(picture.samples[at] + residualAt(y, x));
-                }
+        private void addResidual(int n) {
+            for (int k = 0; k < 16; k++) {
+                int at = sampleNumber(n, k);
+                picture.samples[at] = limit(picture.samples[at] + residualAt(k / 4, k % 4));
             }
         }
 
@@ -976,7 +962,7 @@ public final class BlockPictures {
             for (int n = 0; n < BLOCKS; n++) {
                 putBits(0, 2);
                 for (int k = 0; k < 16; k++) {
-                    putBits(source[cornerOf(n) + SIDE * (k / 4) + k % 4], 8);
+                    putBits(source[sampleNumber(n, k)], 8);
                 }
             }
             close();

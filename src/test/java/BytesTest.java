@@ -232,6 +232,7 @@ public final class BytesTest {
         x.pass();
         Check.due("the source stays", x.end(), 1);
         Check.due("sample(5)", x.sample(5), 77);
+        parametersAndReset();
         // Zeros before reset() are no part of a start code.
         UnitBits.feed(x, 0, 0);
         x.reset();
@@ -241,5 +242,20 @@ public final class BytesTest {
         // A next picture finds no reference.
         UnitBits.next(4, 0).copied(16).send(x, 1);
         Check.due("no reference", x.fault(), 8);
+    }
+
+    private static void parametersAndReset() {
+        BlockPictures x = UnitBits.decoder(1, 0);
+        x.reset();
+        UnitBits.key(1, 0).means(16).send(x, 5);
+        Check.due("pending parameters are gone", x.fault(), 7);
+        x = UnitBits.decoder(1, 0);
+        UnitBits.key(1, 0).plain(100).plain(103).means(14).send(x, 5);
+        Check.due("lines are smoothed", x.smoothed() > 0, true);
+        x.reset();
+        Check.due("reset smoothed()", x.smoothed(), 0);
+        UnitBits.key(1, 0).means(16).send(x, 5);
+        Check.due("taken parameters are gone", x.fault(), 7);
+        Check.due("the picture was not decoded", x.smoothed() + x.held(), 0);
     }
 }

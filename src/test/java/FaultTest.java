@@ -39,6 +39,11 @@ public final class FaultTest {
     }
 
     private static void numbers() {
+        // A 1 as the first bit: there is no data, but the unit is not without a 1.
+        fresh("a key picture without data", new int[] {5, 0x80}, 7);
+        fresh("a next picture without data", new int[] {1, 0x80}, 8);
+        sent("a key picture without data", UnitBits.decoder(1, 0), new UnitBits(), 5, 4);
+        sent("a next picture without data", withReferences(1), new UnitBits(), 1, 4);
         fresh("0, 0", "1 1", 0);
         fresh("3, 11", "00100 0001100", 0);
         fresh("no data at all", "", 4);

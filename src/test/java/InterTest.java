@@ -11,6 +11,7 @@ public final class InterTest {
         residuals();
         strengths();
         lists();
+        nothingOfEarlierPictures();
         vectorAnswers();
         Check.finish();
     }
@@ -249,6 +250,24 @@ public final class InterTest {
         Check.due("10 apart, different references", x.smoothed(), 8);
         Check.due("t = 1 + 5 / 3", x.heldSample(3, 3), 22);
         Check.due("t = 1 + 5 / 3", x.heldSample(3, 4), 28);
+    }
+
+    private static void nothingOfEarlierPictures() {
+        BlockPictures x = ramp(1);
+        for (int round = 0; round < 3; round++) {
+            UnitBits.next(20, 0).inter(6, 2).raw("0").copied(15).send(x, 1);
+            Check.due("vector(15)", x.vector(15), pair(6, 2));
+        }
+        UnitBits.next(20, 0).plainInNext(0).copied(15).send(x, 1);
+        for (int n = 0; n < 16; n++) {
+            Check.due("vector(" + n + ") behind an INTRA block", x.vector(n), n == 0 ? -1 : pair(0, 0));
+        }
+        x = threeReferences();
+        UnitBits.next(0, 2).raw("10").number(2).raw("1 1 0").copied(15).send(x, 1);
+        for (int round = 0; round < 3; round++) {
+            UnitBits.next(0, 2).copied(16).send(x, 1);
+            Check.due("a copied block is of the first reference", x.heldSample(3, 0), 30);
+        }
     }
 
     private static BlockPictures threeReferences() {

@@ -49,6 +49,8 @@ public final class WriterTest {
         Check.due("draw(18, 9)", x.draw(18, 9), true);
         Check.due("draw(18, 90)", x.draw(18, 90), true);
         Check.due("draw(0, 256) again", x.draw(0, 256), false);
+        Check.due("draw(40, 1)", x.draw(40, 1), true);
+        Check.due("draw(40, 0)", x.draw(40, 0), true);
         int[] samples = source(x, 1);
         for (int i = 0; i < 256; i++) {
             int want = i == 0 ? 255 : i == 255 ? 254 : i == 18 ? 90 : 0;
