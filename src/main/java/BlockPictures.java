@@ -456,7 +456,7 @@ public final class BlockPictures {
         }
     }
 
-    /** What is known of the blocks of a picture beside their samples; a block that is not INTER has the vector (0, 0). */
+    /** What is known of a picture's blocks beside their samples; one that is not INTER has the vector (0, 0). */
     private static final class BlockRows {
         final boolean[] inter = new boolean[BLOCKS];
         final boolean[] residual = new boolean[BLOCKS];

@@ -21,7 +21,7 @@ public final class RandomRunsTest {
         for (int run = 0; run < RUNS && Check.allRight(); run++) {
             new RandomRunsTest(run).play();
         }
-        Check.due("pictures came", pictures > 3000, true);
+        Check.due("pictures were held", pictures > 3000, true);
         Check.due("lines were smoothed", lines > 10000, true);
         for (int fault = 1; fault <= 9; fault++) {
             System.out.println("fault " + fault + ": " + FAULTS[fault] + " times");
@@ -195,7 +195,7 @@ public final class RandomRunsTest {
     }
 
     private void compare() {
-        pictures += model.smoothed() >= 0 && model.fault() == 0 ? 1 : 0;
+        pictures += model.held();
         lines += model.smoothed();
         Check.due(name + " fault()", x.fault(), model.fault());
         Check.due(name + " units()", x.units(), model.units());
