@@ -204,7 +204,7 @@ public final class FaultTest {
     }
 
     private static int[] look(BlockPictures x) {
-        int[] seen = new int[1100];
+        int[] seen = new int[250];
         int count = 0;
         seen[count++] = x.units();
         seen[count++] = x.shown();
@@ -215,7 +215,7 @@ public final class FaultTest {
             seen[count++] = x.order(k);
             seen[count++] = x.heldState(k);
         }
-        for (int i = 0; i < 256; i++) {
+        for (int i = 0; i < 256; i += 7) {
             seen[count++] = x.sample(i);
             seen[count++] = x.heldSample(0, i);
             seen[count++] = x.heldSample(1, i);

@@ -2,7 +2,10 @@ import java.util.Random;
 
 /** Compares the class with the model over streams that are mostly right, with a fixed seed. */
 public final class RandomRunsTest {
-    private static final int RUNS = 1200;
+    private static final int RUNS = 9000;
+    /** An object answers so many calls as it should; what is left of them after the stream is for looking. */
+    private static final int MOST_CALLS = 512;
+    private static final int CALLS_FOR_THE_STREAM = 300;
     private static final int[] FAULTS = new int[10];
     private static int pictures = 0;
     private static int lines = 0;
@@ -11,6 +14,7 @@ public final class RandomRunsTest {
     private final BlockPictures x = new BlockPictures();
     private final Model model = new Model();
     private final String name;
+    private int calls = 0;
 
     private RandomRunsTest(int run) {
         random = new Random(77000 + run);
@@ -32,38 +36,65 @@ public final class RandomRunsTest {
 
     private void play() {
         boolean bare = true;
-        for (int step = 0; step < 24; step++) {
-            int choice = random.nextInt(40);
-            if (bare && choice > 1 || choice == 2) {
-                unit(random.nextInt(4) << 5 | 7, UnitBits.parameters(1 + random.nextInt(4), random.nextInt(12)));
-                bare = false;
-            } else if (choice == 3) {
-                Check.due(name + " end()", x.end(), model.end());
-                bare = true;
-            } else if (choice == 4) {
-                x.reset();
-                model.reset();
-                bare = true;
-            } else if (choice == 5) {
-                unit(random.nextInt(160), new UnitBits().bits(random.nextInt(), 30));
-            } else if (choice == 6) {
-                noise(random.nextInt(12));
-            } else if (choice == 7) {
-                longUnit(315 + random.nextInt(7));
-            } else {
-                picture(model.references() == 0 || random.nextInt(10) == 0);
-            }
-            compare();
+        while (calls < CALLS_FOR_THE_STREAM) {
+            bare = step(bare);
+            due("fault()", x.fault(), model.fault());
             if (model.fault() != 0) {
                 FAULTS[model.fault()]++;
-                Check.due(name + " end()", x.end(), model.end());
-                x.reset();
-                model.reset();
+                if (random.nextInt(3) == 0) {
+                    break;
+                }
+                due("end()", x.end(), model.end());
+                reset();
                 bare = true;
             }
         }
-        Check.due(name + " end()", x.end(), model.end());
-        compare();
+        if (random.nextInt(3) == 0) {
+            due("end()", x.end(), model.end());
+        }
+        pictures += model.held();
+        lines += model.smoothed();
+        while (calls < MOST_CALLS) {
+            look(random.nextInt(20));
+        }
+    }
+
+    private void due(String what, int got, int want) {
+        calls++;
+        Check.due(name + ", call " + calls + ", " + what, got, want);
+    }
+
+    private void reset() {
+        calls++;
+        x.reset();
+        model.reset();
+    }
+
+    /** Sends a unit or calls something else; bare: no parameters have come. Answers whether it is bare then. */
+    private boolean step(boolean bare) {
+        int choice = random.nextInt(40);
+        if (bare && choice > 1 || choice == 2) {
+            unit(random.nextInt(4) << 5 | 7, UnitBits.parameters(1 + random.nextInt(4), random.nextInt(12)));
+            return false;
+        }
+        if (choice == 3) {
+            due("end()", x.end(), model.end());
+            return true;
+        }
+        if (choice == 4) {
+            reset();
+            return true;
+        }
+        if (choice == 5) {
+            unit(random.nextInt(160), new UnitBits().bits(random.nextInt(), 30));
+        } else if (choice == 6) {
+            noise(random.nextInt(12));
+        } else if (choice == 7) {
+            longUnit(315 + random.nextInt(7));
+        } else {
+            picture(model.references() == 0 || random.nextInt(10) == 0);
+        }
+        return bare;
     }
 
     private void noise(int count) {
@@ -81,7 +112,7 @@ public final class RandomRunsTest {
     }
 
     private void feed(int word, int count) {
-        Check.due(name + " feed(" + word + ", " + count + ")", x.feed(word, count), model.feed(word, count));
+        due("feed(" + word + ", " + count + ")", x.feed(word, count), model.feed(word, count));
     }
 
     private void unit(int head, UnitBits bits) {
@@ -97,7 +128,7 @@ public final class RandomRunsTest {
             framed[random.nextInt(framed.length)] = random.nextInt(4);
         }
         for (int at = 0; at < framed.length;) {
-            int count = Math.min(1 + random.nextInt(4), framed.length - at);
+            int count = Math.min(random.nextInt(3) == 0 ? 1 + random.nextInt(4) : 4, framed.length - at);
             int word = random.nextInt(1 << 8);
             for (int k = 0; k < count; k++) {
                 word = word << 8 | framed[at++];
@@ -194,28 +225,21 @@ public final class RandomRunsTest {
         }
     }
 
-    private void compare() {
-        pictures += model.held();
-        lines += model.smoothed();
-        Check.due(name + " fault()", x.fault(), model.fault());
-        Check.due(name + " units()", x.units(), model.units());
-        Check.due(name + " shown()", x.shown(), model.shown());
-        Check.due(name + " held()", x.held(), model.held());
-        Check.due(name + " smoothed()", x.smoothed(), model.smoothed());
-        for (int k = -1; k <= 8; k++) {
-            Check.due(name + " order(" + k + ")", x.order(k), model.order(k));
-        }
-        for (int i = -1; i <= 256; i++) {
-            Check.due(name + " sample(" + i + ")", x.sample(i), model.sample(i));
-        }
-        for (int n = -1; n <= 16; n++) {
-            Check.due(name + " vector(" + n + ")", x.vector(n), model.vector(n));
-        }
-        for (int k = -1; k <= 4; k++) {
-            Check.due(name + " heldState(" + k + ")", x.heldState(k), model.heldState(k));
-            for (int i = -1; i <= 256; i++) {
-                Check.due(name + " heldSample(" + k + ", " + i + ")", x.heldSample(k, i), model.heldSample(k, i));
-            }
+    private void look(int choice) {
+        int k = random.nextInt(10) - 1;
+        int i = random.nextInt(258) - 1;
+        int n = random.nextInt(18) - 1;
+        switch (choice) {
+            case 0 -> due("fault()", x.fault(), model.fault());
+            case 1 -> due("units()", x.units(), model.units());
+            case 2 -> due("shown()", x.shown(), model.shown());
+            case 3 -> due("held()", x.held(), model.held());
+            case 4 -> due("smoothed()", x.smoothed(), model.smoothed());
+            case 5 -> due("order(" + k + ")", x.order(k), model.order(k));
+            case 6, 7 -> due("heldState(" + k % 5 + ")", x.heldState(k % 5), model.heldState(k % 5));
+            case 8, 9 -> due("vector(" + n + ")", x.vector(n), model.vector(n));
+            case 10, 11, 12 -> due("sample(" + i + ")", x.sample(i), model.sample(i));
+            default -> due("heldSample(" + k % 5 + ", " + i + ")", x.heldSample(k % 5, i), model.heldSample(k % 5, i));
         }
     }
 }

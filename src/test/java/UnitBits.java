@@ -1,3 +1,5 @@
+import java.util.function.IntBinaryOperator;
+
 /** The data of a unit, written bit by bit, and the ways to hand units to a decoder. */
 final class UnitBits {
     private final StringBuilder data = new StringBuilder();
@@ -34,6 +36,23 @@ final class UnitBits {
         return this;
     }
 
+    /** A block of mode 0 whose samples are those of block n of the picture. */
+    UnitBits block(int n, IntBinaryOperator picture) {
+        bits(0, 2);
+        for (int k = 0; k < 16; k++) {
+            bits(picture.applyAsInt(4 * (n % 4) + k % 4, 4 * (n / 4) + k / 4), 8);
+        }
+        return this;
+    }
+
+    /** All blocks of mode 0, for a key picture; the picture tells sample (x, y). */
+    UnitBits blocks(IntBinaryOperator picture) {
+        for (int n = 0; n < 16; n++) {
+            block(n, picture);
+        }
+        return this;
+    }
+
     /** Blocks of a key picture of mode 1 without a residual. */
     UnitBits means(int count) {
         for (int k = 0; k < count; k++) {
@@ -63,6 +82,11 @@ final class UnitBits {
 
     int length() {
         return data.length();
+    }
+
+    /** The bits so far, to go on from in several ways. */
+    String text() {
+        return data.toString();
     }
 
     /** The unit's bytes: byte 0, the data, a 1, zeros to the end of the byte. */

@@ -14,8 +14,13 @@ public final class WriterTest {
     }
 
     private static void bytes(String what, BlockPictures x, int count, int[] want) {
+        bytes(what, x, count, want, 0);
+    }
+
+    /** Looks at 200 bytes at the most: an object that was drawn on has calls left for no more. */
+    private static void bytes(String what, BlockPictures x, int count, int[] want, int from) {
         Check.due(what + ": count", count, want.length);
-        for (int k = 0; k < want.length; k++) {
+        for (int k = from; k < want.length && k < from + 200; k++) {
             Check.due(what + ": written(" + k + ")", x.written(k), want[k]);
         }
         Check.due(what + ": written behind", x.written(want.length), -1);
@@ -24,18 +29,13 @@ public final class WriterTest {
         Check.due(what + ": written(most)", x.written(Integer.MAX_VALUE), -1);
     }
 
-    private static int[] source(BlockPictures x, int order) {
+    private static void show(BlockPictures x, int order) {
         x.write(7, 0, 0);
         x.reset();
         x.pass();
         x.write(5, order, 0);
         x.pass();
         x.end();
-        int[] samples = new int[256];
-        for (int i = 0; i < 256; i++) {
-            samples[i] = x.sample(i);
-        }
-        return samples;
     }
 
     private static void draws() {
@@ -51,10 +51,10 @@ public final class WriterTest {
         Check.due("draw(0, 256) again", x.draw(0, 256), false);
         Check.due("draw(40, 1)", x.draw(40, 1), true);
         Check.due("draw(40, 0)", x.draw(40, 0), true);
-        int[] samples = source(x, 1);
+        show(x, 1);
         for (int i = 0; i < 256; i++) {
             int want = i == 0 ? 255 : i == 255 ? 254 : i == 18 ? 90 : 0;
-            Check.due("sample(" + i + ")", samples[i], want);
+            Check.due("sample(" + i + ")", x.sample(i), want);
         }
     }
 
@@ -64,6 +64,7 @@ public final class WriterTest {
         bytes("write(7, 0, 0)", x, x.write(7, 0, 0), new int[] {0, 0, 1, 39, 0xE0});
         bytes("write(7, 3, 11)", x, x.write(7, 3, 11), new int[] {0, 0, 1, 39, 0x20, 0xC8});
         for (int a = 0; a < 4; a++) {
+            x = new BlockPictures();
             for (int b = 0; b < 12; b++) {
                 int[] want = UnitBits.framed(UnitBits.parameters(a + 1, b).unit(39));
                 bytes("write(7, " + a + ", " + b + ")", x, x.write(7, a, b), want);
@@ -82,23 +83,42 @@ public final class WriterTest {
             want[k] = 3;
         }
         want[want.length - 1] = 0x80;
-        bytes("write(5, 9, 0)", x, x.write(5, 9, 0), want);
-        bytes("b is not looked at", x, x.write(5, 9, Integer.MIN_VALUE), want);
+        bytes("write(5, 9, 0)", x, x.write(5, 9, 0), want, 0);
+        bytes("write(5, 9, 0)", x, x.write(5, 9, 0), want, 200);
+        x = new BlockPictures();
+        bytes("b is not looked at", x, x.write(5, 9, Integer.MIN_VALUE), want, 0);
+        bytes("b is not looked at", x, x.write(5, 9, Integer.MAX_VALUE), want, 200);
         int[] orders = {0, 1, 2, 126, 127, 128, 254, 255};
         for (int order : orders) {
-            BlockPictures y = new BlockPictures();
             int[] samples = new int[256];
             for (int i = 0; i < 256; i++) {
                 samples[i] = (i * 37 + order) % 256;
-                y.draw(i, samples[i]);
             }
-            bytes("write(5, " + order + ", 1)", y, y.write(5, order, 1), expected(samples, order));
-            int[] shown = source(y, order);
-            for (int i = 0; i < 256; i++) {
-                Check.due("sample(" + i + ") of order " + order, shown[i], samples[i]);
+            for (int from = 0; from < 400; from += 200) {
+                BlockPictures y = drawn(samples);
+                bytes("write(5, " + order + ", 1)", y, y.write(5, order, 1), expected(samples, order), from);
             }
-            Check.due("order(0)", y.order(0), order);
+            decoded(samples, order, 0);
+            decoded(samples, order, 128);
         }
+    }
+
+    private static BlockPictures drawn(int[] samples) {
+        BlockPictures x = new BlockPictures();
+        for (int i = 0; i < 256; i++) {
+            x.draw(i, samples[i]);
+        }
+        return x;
+    }
+
+    /** Looks at half of the samples that a picture written and passed has. */
+    private static void decoded(int[] samples, int order, int from) {
+        BlockPictures x = drawn(samples);
+        show(x, order);
+        for (int i = from; i < from + 128; i++) {
+            Check.due("sample(" + i + ") of order " + order, x.sample(i), samples[i]);
+        }
+        Check.due("order(0)", x.order(0), order);
     }
 
     private static int[] expected(int[] samples, int order) {
@@ -116,18 +136,19 @@ public final class WriterTest {
         Random random = new Random(5);
         int[] values = {0, 0, 0, 0, 0, 0, 1, 2, 3, 4, 16, 32, 48, 64, 128, 192, 255};
         for (int round = 0; round < 300; round++) {
-            BlockPictures x = new BlockPictures();
             int[] samples = new int[256];
             for (int i = 0; i < 256; i++) {
                 samples[i] = values[random.nextInt(values.length)];
-                x.draw(i, samples[i]);
             }
             int order = random.nextInt(256);
-            int count = x.write(5, order, round);
-            bytes("round " + round, x, count, expected(samples, order));
-            for (int k = 3; k < count; k++) {
-                boolean behindZeros = x.written(k - 1) == 0 && x.written(k - 2) == 0;
-                Check.due("a mark at " + k, behindZeros && x.written(k) < 3, false);
+            int[] want = expected(samples, order);
+            for (int from = 0; from < 400; from += 200) {
+                BlockPictures x = drawn(samples);
+                bytes("round " + round, x, x.write(5, order, round), want, from);
+            }
+            for (int k = 3; k < want.length; k++) {
+                boolean behindZeros = want[k - 1] == 0 && want[k - 2] == 0;
+                Check.due("a mark at " + k, behindZeros && want[k] < 3, false);
             }
         }
     }
