@@ -67,7 +67,10 @@ public final class BytesBoundsTest {
         for (int zeros = 0; zeros < 12; zeros++) {
             after(zeros < 2 ? 0 : 1, 0, joined(new int[zeros], row(1, 8, 0, 0, 0)));
         }
-        after(1, 0, joined(new int[900], row(1, 8, 0, 0, 0)));
+        // As many as 512 calls can bring; no count of them is too high.
+        for (int zeros = 12; zeros < 2030; zeros++) {
+            after(1, 0, joined(new int[zeros], row(1, 8, 0, 0, 0)));
+        }
     }
 
     private static void unitBeginsEmpty() {

@@ -31,33 +31,6 @@ public final class CallBoundsTest {
         Check.finish();
     }
 
-    /** A decoder that is in a unit behind two zeros, with pictures held and shown, parameters pending, bytes written. */
-    static BlockPictures busy() {
-        BlockPictures x = UnitBits.decoder(2, 3);
-        for (int i = 0; i < 16; i++) {
-            x.draw(i, 200 + i);
-        }
-        Pictures.key(x, 30);
-        UnitBits.next(20, 0).inter(3, -5).raw("0").copied(15).send(x, 1);
-        UnitBits.next(10, 0).inter(4, 6).raw("0").copied(15).send(x, 1);
-        UnitBits.parameters(3, 4).send(x, 7);
-        x.write(7, 1, 2);
-        UnitBits.feed(x, 0, 0, 1, 8, 0, 0);
-        return x;
-    }
-
-    /** The same, stopped by FAULT 2. */
-    static BlockPictures stopped() {
-        BlockPictures x = busy();
-        x.feed(2, 1);
-        Check.due("fault()", x.fault(), 2);
-        return x;
-    }
-
-    static List<Supplier<BlockPictures>> states() {
-        return List.of(BlockPictures::new, CallBoundsTest::busy, CallBoundsTest::stopped);
-    }
-
     private static void newObject() {
         Check.sentence("Outside, no parameters, an empty buffer, nothing shown, no fault; no written bytes");
         BlockPictures x = new BlockPictures();
@@ -93,7 +66,7 @@ public final class CallBoundsTest {
             Check.due("feed(.., " + count + ")", x.feed(0, count), 1);
             Check.due("units()", x.units(), 1);
         }
-        for (Supplier<BlockPictures> state : states()) {
+        for (Supplier<BlockPictures> state : States.all().values()) {
             for (int count : new int[] {0, 5, -1, -3, -4, 8, 32, 256, Integer.MIN_VALUE, Integer.MAX_VALUE}) {
                 Check.due("feed(0, " + count + ")", state.get().feed(0, count), 0);
                 Twins.unchanged("feed(0, " + count + ")", state, x -> x.feed(0, count));
@@ -171,10 +144,10 @@ public final class CallBoundsTest {
         Check.sentence("feed: 0 when it is stopped");
         for (int count = 1; count <= 4; count++) {
             int bytes = count;
-            Check.due("feed(0, " + count + ")", stopped().feed(0, count), 0);
-            Check.due("feed(1, " + count + ")", stopped().feed(1, count), 0);
-            Twins.unchanged("feed(0, " + count + ")", CallBoundsTest::stopped, x -> x.feed(0, bytes));
-            Twins.unchanged("feed(1, " + count + ")", CallBoundsTest::stopped, x -> x.feed(1, bytes));
+            Check.due("feed(0, " + count + ")", States.stopped().feed(0, count), 0);
+            Check.due("feed(1, " + count + ")", States.stopped().feed(1, count), 0);
+            Twins.unchanged("feed(0, " + count + ")", States::stopped, x -> x.feed(0, bytes));
+            Twins.unchanged("feed(1, " + count + ")", States::stopped, x -> x.feed(1, bytes));
         }
     }
 
@@ -292,9 +265,9 @@ public final class CallBoundsTest {
 
     private static void endStopped() {
         Check.sentence("0, changing nothing, when it was stopped at its beginning");
-        Check.due("end()", stopped().end(), 0);
-        Twins.unchanged("end()", CallBoundsTest::stopped, BlockPictures::end);
-        BlockPictures x = stopped();
+        Check.due("end()", States.stopped().end(), 0);
+        Twins.unchanged("end()", States::stopped, BlockPictures::end);
+        BlockPictures x = States.stopped();
         x.end();
         Check.due("held() stays", x.held(), 2);
         Check.due("fault() stays", x.fault(), 2);
@@ -302,7 +275,7 @@ public final class CallBoundsTest {
 
     private static void reset() {
         Check.sentence("All is as it was at the beginning (nothing shown, none decoded)");
-        for (Supplier<BlockPictures> state : states()) {
+        for (Supplier<BlockPictures> state : States.all().values()) {
             BlockPictures x = state.get();
             x.reset();
             Check.due("fault()", x.fault(), 0);
@@ -325,7 +298,7 @@ public final class CallBoundsTest {
             Check.due("no parameters", x.fault(), 7);
         }
         Check.sentence("but the source and the written bytes stay");
-        BlockPictures x = busy();
+        BlockPictures x = States.busy();
         x.reset();
         int[] due = {0, 0, 1, 39, 0x4E, -1};
         for (int k = 0; k < due.length; k++) {
@@ -392,6 +365,12 @@ public final class CallBoundsTest {
         Check.due("one with a fault", x.units(), 5);
         x.reset();
         Check.due("reset()", x.units(), 0);
+        // One that has not ended is there behind every call.
+        x = new BlockPictures();
+        for (int k = 0; k < 250; k++) {
+            Check.due("a unit a call", x.feed(0x00000108, 4), k == 0 ? 0 : 1);
+            Check.due("units()", x.units(), k);
+        }
     }
 
     private static void shown() {
@@ -406,6 +385,17 @@ public final class CallBoundsTest {
         }
         x.end();
         Check.due("end()", x.shown(), 21);
+        // Each key picture shows the one before it: as many as calls can bring.
+        x = new BlockPictures();
+        x.write(7, 0, 0);
+        x.pass();
+        for (int k = 0; k < 125; k++) {
+            x.write(5, k, 0);
+            Check.due("pass()", x.pass(), 1);
+            Check.due("shown()", x.shown(), Math.max(0, k - 1));
+            Check.due("order(0)", x.order(0), k < 2 ? -1 : k - 2);
+        }
+        Check.due("order(7)", x.order(7), 115);
     }
 
     private static void order() {
@@ -421,7 +411,7 @@ public final class CallBoundsTest {
             Check.due("order of the most", x.order(Integer.MAX_VALUE), -1);
             Pictures.other(x, 50 + k);
         }
-        Twins.unchanged("order(8)", CallBoundsTest::busy, y -> y.order(8));
+        Twins.unchanged("order(8)", States::busy, y -> y.order(8));
     }
 
     private static void sample() {
@@ -532,6 +522,13 @@ public final class CallBoundsTest {
         UnitBits.parameters(1, 0).send(x, 7);
         UnitBits.key(9, 0).plain(100).plain(103).plain(200).plain(250).plain(200).plain(0).means(10).send(x, 5);
         Check.due("four lines", x.smoothed(), 4);
+        UnitBits.next(10, 0).copied(16).send(x, 1);
+        Check.due("of the latest decoded picture: none", x.smoothed(), 0);
+        UnitBits.next(10, 0).copied(15).raw("11 01 0").send(x, 1);
+        int last = x.smoothed();
+        UnitBits.next(10, 0).copied(15).raw("11 01 0").send(x, 1);
+        Check.due("the same once more, not the sum", x.smoothed(), last);
+        UnitBits.key(9, 0).plain(100).plain(103).plain(200).plain(250).plain(200).plain(0).means(10).send(x, 5);
         x.end();
         Check.due("after end()", x.smoothed(), 4);
         x.reset();

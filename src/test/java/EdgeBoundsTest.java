@@ -6,6 +6,7 @@ public final class EdgeBoundsTest {
     public static void main(String[] args) {
         sidesOfThePicture();
         leftEdgeFirst();
+        blocksInTheirOrder();
         intraStrength();
         residualStrength();
         referenceStrength();
@@ -85,6 +86,23 @@ public final class EdgeBoundsTest {
         Check.due("above it", x.heldSample(0, 16 * 3 + 4), 101);
         Check.due("right of it", x.heldSample(0, 16 * 4 + 5), 102);
         Check.due("above that", x.heldSample(0, 16 * 3 + 5), 102);
+        Check.due("smoothed()", x.smoothed(), 7);
+    }
+
+    private static void blocksInTheirOrder() {
+        Check.sentence("for each block Q, 0 .. 15");
+        // Block 0 is 100, block 1 to its right 103, block 4 below it 102; the others are far from all of them.
+        BlockPictures x = UnitBits.decoder(1, 0);
+        UnitBits.key(9, 0).blocks((c, r) -> {
+            int n = c / 4 + r / 4 * 4;
+            return n == 0 ? 100 : n == 1 ? 103 : n == 4 ? 102 : n % 2 == 0 ? 200 : 0;
+        }).send(x, 5);
+        // The edge of block 1 makes the corner 101, so that the edge of block 4 finds a step of 1 there: D = 0.
+        Check.due("the corner", x.heldSample(0, 16 * 3 + 3), 101);
+        Check.due("right of it", x.heldSample(0, 16 * 3 + 4), 102);
+        Check.due("below it", x.heldSample(0, 16 * 4 + 3), 102);
+        Check.due("left of it", x.heldSample(0, 16 * 3 + 2), 101);
+        Check.due("below that", x.heldSample(0, 16 * 4 + 2), 101);
         Check.due("smoothed()", x.smoothed(), 7);
     }
 

@@ -7,6 +7,7 @@ import java.nio.file.Path;
 import java.util.Arrays;
 import java.util.Set;
 import java.util.TreeSet;
+import java.util.regex.Matcher;
 import java.util.regex.Pattern;
 
 /** The public face, the language rules that can be seen from outside, and promise 1: a new object. */
@@ -20,6 +21,7 @@ public final class FaceTest {
         publicMembers();
         membersInside();
         wordsOfTheSource();
+        methodsAreShort();
         newObject();
         Check.due("NONE", BlockPictures.NONE, -1);
         Check.finish();
@@ -36,6 +38,7 @@ public final class FaceTest {
                 found.add(text.append(')').append(method.getReturnType().getName()).toString());
             } else {
                 Check.due(method + " is private", Modifier.isPrivate(method.getModifiers()), true);
+                Check.due(method + " bears a public name", publicNames().contains(method.getName()), false);
             }
         }
         Check.due("methods " + found, found.equals(new TreeSet<>(Arrays.asList(FACE))), true);
@@ -51,11 +54,16 @@ public final class FaceTest {
         }
     }
 
-    private static void membersInside() {
+    private static Set<String> publicNames() {
         Set<String> names = new TreeSet<>();
         for (String line : FACE) {
             names.add(line.substring(0, line.indexOf('(')));
         }
+        return names;
+    }
+
+    private static void membersInside() {
+        Set<String> names = publicNames();
         Class<?>[] inside = BlockPictures.class.getDeclaredClasses();
         Check.due("twelve classes at the most", inside.length < 12, true);
         for (Class<?> type : inside) {
@@ -81,6 +89,28 @@ public final class FaceTest {
             "\\bsynchronized\\b", "\\bnull\\b", "\\bpackage\\b", "\"", "Exact\\b", "\\bprotected\\b"}) {
             Check.due("the source has " + word, Pattern.compile(word).matcher(source).find(), false);
         }
+    }
+
+    /** A method begins with a line that opens a body and ends with the next brace under its first letter. */
+    private static void methodsAreShort() throws Exception {
+        Pattern opening = Pattern.compile("( {4}| {8})[A-Za-z][^=;]*\\([^;]*\\) \\{");
+        String indent = "";
+        int length = 0;
+        int methods = 0;
+        for (String line : Files.readAllLines(Path.of("src/main/java/BlockPictures.java"))) {
+            Matcher start = opening.matcher(line);
+            if (indent.isEmpty() && start.matches()) {
+                indent = start.group(1);
+                length = 0;
+                methods++;
+            }
+            length++;
+            if (!indent.isEmpty() && line.equals(indent + "}")) {
+                Check.due("a method has " + length + " lines, sixty at the most", length <= 60, true);
+                indent = "";
+            }
+        }
+        Check.due("methods were found", methods > 50, true);
     }
 
     private static void newObject() {

@@ -46,6 +46,8 @@ final class Model {
     private Shot latest = null;
     private String data;
     private int next;
+    private final int[] source = new int[256];
+    private List<Integer> written = new ArrayList<>();
 
     int feed(int word, int count) {
         int ended = 0;
@@ -175,6 +177,71 @@ final class Model {
         return latest == null ? 0 : latest.lines;
     }
 
+    boolean draw(int i, int v) {
+        if (i < 0 || i > 255 || v < 0 || v > 255) {
+            return false;
+        }
+        source[i] = v;
+        return true;
+    }
+
+    int write(int kind, int a, int b) {
+        StringBuilder bits = new StringBuilder();
+        if (kind == 7 && a >= 0 && a <= 3 && b >= 0 && b <= 11) {
+            bits.append(byteText(39)).append(numberText(a)).append(numberText(b));
+        } else if (kind == 5 && a >= 0 && a <= 255) {
+            bits.append(byteText(101)).append(numberText(a)).append(numberText(0));
+            for (int n = 0; n < 16; n++) {
+                bits.append("00");
+                for (int k = 0; k < 16; k++) {
+                    bits.append(byteText(source[16 * (4 * (n / 4) + k / 4) + 4 * (n % 4) + k % 4]));
+                }
+            }
+        } else {
+            return -1;
+        }
+        bits.append('1');
+        while (bits.length() % 8 != 0) {
+            bits.append('0');
+        }
+        frame(bits);
+        return written.size();
+    }
+
+    private void frame(CharSequence bits) {
+        written = new ArrayList<>(List.of(0, 0, 1));
+        for (int at = 0; at < bits.length(); at += 8) {
+            int b = Integer.parseInt(bits, at, at + 8, 2);
+            int last = written.size() - 1;
+            // The start code has a 1 behind its zeros, so no zeros but the unit's own are met.
+            if (b <= 3 && written.get(last) == 0 && written.get(last - 1) == 0) {
+                written.add(3);
+            }
+            written.add(b);
+        }
+    }
+
+    int written(int k) {
+        return k < 0 || k >= written.size() ? -1 : written.get(k);
+    }
+
+    int pass() {
+        int ended = 0;
+        for (int b : written) {
+            ended += take(b);
+        }
+        return ended;
+    }
+
+    private static String byteText(int b) {
+        return Integer.toBinaryString(256 + b).substring(1);
+    }
+
+    private static String numberText(int v) {
+        String digits = Integer.toBinaryString(v + 1);
+        return "0".repeat(digits.length() - 1) + digits;
+    }
+
     int references() {
         return (int) buffer.stream().filter(s -> s.reference).count();
     }
@@ -193,7 +260,7 @@ final class Model {
     }
 
     private void workThrough(List<Integer> bytes) throws Fault {
-        String head = String.format("%8s", Integer.toBinaryString(bytes.get(0))).replace(' ', '0');
+        String head = byteText(bytes.get(0));
         if (head.charAt(0) == '1') {
             throw new Fault(1);
         }
@@ -204,7 +271,7 @@ final class Model {
         }
         StringBuilder all = new StringBuilder();
         for (int b : bytes.subList(1, bytes.size())) {
-            all.append(String.format("%8s", Integer.toBinaryString(b)).replace(' ', '0'));
+            all.append(byteText(b));
         }
         int mark = all.lastIndexOf("1");
         if (mark < 0) {

@@ -1,11 +1,15 @@
 import java.util.Random;
 
-/** Compares the class with the model over streams that are mostly right, with a fixed seed. */
+/**
+ * Compares the class with the model over streams that are mostly right, with a fixed seed. Any other call may come
+ * between two bytes of a stream, so that one that changes what it should not is seen by what comes later.
+ */
 public final class RandomRunsTest {
     private static final int RUNS = 9000;
     /** An object answers so many calls as it should; what is left of them after the stream is for looking. */
     private static final int MOST_CALLS = 512;
-    private static final int CALLS_FOR_THE_STREAM = 300;
+    private static final int CALLS_FOR_THE_STREAM = 330;
+    private static final int[] WRONG = {-1, -2, -256, 256, 257, 1000, 65536, Integer.MIN_VALUE, Integer.MAX_VALUE};
     private static final int[] FAULTS = new int[10];
     private static int pictures = 0;
     private static int lines = 0;
@@ -38,13 +42,14 @@ public final class RandomRunsTest {
         boolean bare = true;
         while (calls < CALLS_FOR_THE_STREAM) {
             bare = step(bare);
+            others(2);
             due("fault()", x.fault(), model.fault());
             if (model.fault() != 0) {
                 FAULTS[model.fault()]++;
                 if (random.nextInt(3) == 0) {
                     break;
                 }
-                due("end()", x.end(), model.end());
+                stopped();
                 reset();
                 bare = true;
             }
@@ -55,8 +60,20 @@ public final class RandomRunsTest {
         pictures += model.held();
         lines += model.smoothed();
         while (calls < MOST_CALLS) {
-            look(random.nextInt(20));
+            look(random.nextInt(22));
         }
+        Check.due(name + ", all calls", calls, MOST_CALLS);
+    }
+
+    /** Calls that change nothing of the decoder as long as it is stopped. */
+    private void stopped() {
+        others(2);
+        if (random.nextInt(3) == 0) {
+            pass();
+        }
+        feed(0x00000107, 1 + random.nextInt(4));
+        due("end()", x.end(), model.end());
+        others(1);
     }
 
     private void due(String what, int got, int want) {
@@ -72,9 +89,9 @@ public final class RandomRunsTest {
 
     /** Sends a unit or calls something else; bare: no parameters have come. Answers whether it is bare then. */
     private boolean step(boolean bare) {
-        int choice = random.nextInt(40);
+        int choice = random.nextInt(44);
         if (bare && choice > 1 || choice == 2) {
-            unit(random.nextInt(4) << 5 | 7, UnitBits.parameters(1 + random.nextInt(4), random.nextInt(12)));
+            parameters();
             return false;
         }
         if (choice == 3) {
@@ -91,10 +108,74 @@ public final class RandomRunsTest {
             noise(random.nextInt(12));
         } else if (choice == 7) {
             longUnit(315 + random.nextInt(7));
+        } else if (choice < 12) {
+            writtenKey();
+        } else if (choice == 12) {
+            // Whatever was written latest.
+            pass();
         } else {
             picture(model.references() == 0 || random.nextInt(10) == 0);
         }
         return bare;
+    }
+
+    private void parameters() {
+        if (random.nextInt(3) == 0) {
+            write(7, random.nextInt(4), random.nextInt(12));
+            others(1);
+            pass();
+        } else {
+            unit(random.nextInt(4) << 5 | 7, UnitBits.parameters(1 + random.nextInt(4), random.nextInt(12)));
+        }
+    }
+
+    private void writtenKey() {
+        int middle = random.nextInt(3) == 0 ? 0 : random.nextInt(256);
+        for (int k = random.nextInt(12); k > 0; k--) {
+            draw(random.nextInt(256), Math.min(255, middle + random.nextInt(4)));
+        }
+        write(5, random.nextInt(24), random.nextInt());
+        others(2);
+        pass();
+    }
+
+    private void draw(int i, int v) {
+        due("draw(" + i + ", " + v + ")", x.draw(i, v) ? 1 : 0, model.draw(i, v) ? 1 : 0);
+    }
+
+    private void write(int kind, int a, int b) {
+        due("write(" + kind + ", " + a + ", " + b + ")", x.write(kind, a, b), model.write(kind, a, b));
+    }
+
+    private void pass() {
+        due("pass()", x.pass(), model.pass());
+    }
+
+    /** Calls that leave the decoder as it is; so many at the most. */
+    private void others(int most) {
+        for (int k = random.nextInt(most + 1); k > 0; k--) {
+            int choice = random.nextInt(32);
+            if (choice < 22) {
+                look(choice);
+            } else if (choice < 28) {
+                refused(WRONG[random.nextInt(WRONG.length)]);
+            } else if (choice < 30) {
+                draw(random.nextInt(256), random.nextInt(256));
+            } else {
+                write(5 + 2 * random.nextInt(2), random.nextInt(4), random.nextInt(12));
+            }
+        }
+    }
+
+    private void refused(int wrong) {
+        switch (random.nextInt(6)) {
+            case 0 -> draw(wrong, random.nextInt(256));
+            case 1 -> draw(random.nextInt(256), wrong);
+            case 2 -> write(5, wrong, 0);
+            case 3 -> write(7, random.nextInt(4), wrong);
+            case 4 -> write(wrong, 1, 1);
+            default -> feed(random.nextInt(), wrong);
+        }
     }
 
     private void noise(int count) {
@@ -134,6 +215,9 @@ public final class RandomRunsTest {
                 word = word << 8 | framed[at++];
             }
             feed(word, count);
+            if (random.nextInt(12) == 0) {
+                others(1);
+            }
         }
         if (random.nextInt(3) > 0) {
             feed(random.nextInt(2), 3);
@@ -229,6 +313,7 @@ public final class RandomRunsTest {
         int k = random.nextInt(10) - 1;
         int i = random.nextInt(258) - 1;
         int n = random.nextInt(18) - 1;
+        int written = random.nextInt(random.nextInt(2) == 0 ? 12 : 320) - 1;
         switch (choice) {
             case 0 -> due("fault()", x.fault(), model.fault());
             case 1 -> due("units()", x.units(), model.units());
@@ -238,7 +323,8 @@ public final class RandomRunsTest {
             case 5 -> due("order(" + k + ")", x.order(k), model.order(k));
             case 6, 7 -> due("heldState(" + k % 5 + ")", x.heldState(k % 5), model.heldState(k % 5));
             case 8, 9 -> due("vector(" + n + ")", x.vector(n), model.vector(n));
-            case 10, 11, 12 -> due("sample(" + i + ")", x.sample(i), model.sample(i));
+            case 10, 11 -> due("written(" + written + ")", x.written(written), model.written(written));
+            case 12, 13, 14 -> due("sample(" + i + ")", x.sample(i), model.sample(i));
             default -> due("heldSample(" + k % 5 + ", " + i + ")", x.heldSample(k % 5, i), model.heldSample(k % 5, i));
         }
     }

@@ -39,14 +39,14 @@ public final class WriterBoundsTest {
                 Check.due("another sample", x.sample(i == 100 ? 101 : 100), 0);
             }
         }
-        BlockPictures x = CallBoundsTest.stopped();
+        BlockPictures x = States.stopped();
         Check.due("draw(0, 0) when stopped", x.draw(0, 0), true);
     }
 
     private static void drawRefused() {
         Check.sentence("false, changing nothing, when i is not 0 .. 255 or v is not 0 .. 255");
         int[] wrong = {-1, 256, -256, 257, 511, 65536, Integer.MIN_VALUE, Integer.MAX_VALUE};
-        for (Supplier<BlockPictures> state : CallBoundsTest.states()) {
+        for (Supplier<BlockPictures> state : States.all().values()) {
             for (int value : wrong) {
                 Check.due("draw(" + value + ", 5)", state.get().draw(value, 5), false);
                 Check.due("draw(5, " + value + ")", state.get().draw(5, value), false);
@@ -76,7 +76,7 @@ public final class WriterBoundsTest {
         Check.sentence("NONE, changing nothing, when the kind is not as said");
         Check.due("write(5, 0, 0)", new BlockPictures().write(5, 0, 0) > 0, true);
         Check.due("write(7, 0, 0)", new BlockPictures().write(7, 0, 0) > 0, true);
-        for (Supplier<BlockPictures> state : CallBoundsTest.states()) {
+        for (Supplier<BlockPictures> state : States.all().values()) {
             for (int kind : new int[] {0, 1, 2, 3, 4, 6, 8, 15, 39, 101, -1, -5, -7, 261, 263, Integer.MIN_VALUE, Integer.MAX_VALUE}) {
                 refused(state, kind, 0, 0);
             }
@@ -90,7 +90,7 @@ public final class WriterBoundsTest {
                 row("write(7, " + a + ", " + b + ")", new BlockPictures(), 7, a, b, UnitBits.parameters(a + 1, b).unit(39));
             }
         }
-        for (Supplier<BlockPictures> state : CallBoundsTest.states()) {
+        for (Supplier<BlockPictures> state : States.all().values()) {
             for (int wrong : new int[] {-1, 4, 5, 256, Integer.MIN_VALUE, Integer.MAX_VALUE}) {
                 refused(state, 7, wrong, 0);
             }
@@ -108,7 +108,7 @@ public final class WriterBoundsTest {
             UnitBits due = UnitBits.key(order, 0).blocks((x, y) -> 0);
             row("write(5, " + order + ", 0)", new BlockPictures(), 5, order, 0, due.unit(101));
         }
-        for (Supplier<BlockPictures> state : CallBoundsTest.states()) {
+        for (Supplier<BlockPictures> state : States.all().values()) {
             for (int wrong : new int[] {-1, 256, 257, -256, 512, Integer.MIN_VALUE, Integer.MAX_VALUE}) {
                 refused(state, 5, wrong, 0);
             }
@@ -283,8 +283,8 @@ public final class WriterBoundsTest {
 
     private static void passStopped() {
         Check.sentence("pass: 0 when it is stopped");
-        Check.due("pass()", CallBoundsTest.stopped().pass(), 0);
-        Twins.unchanged("pass()", CallBoundsTest::stopped, BlockPictures::pass);
+        Check.due("pass()", States.stopped().pass(), 0);
+        Twins.unchanged("pass()", States::stopped, BlockPictures::pass);
     }
 
     private static void passAnswers() {
