@@ -770,7 +770,7 @@ public final class BlockPictures {
         private int scaleAt(int stand) {
             int odd = stand / 4 % 2 + stand % 2;
             int weight = odd == 0 ? 10 : odd == 1 ? 13 : 16;
-            return weight * (4 + q % 4) << (q / 4);
+            return (weight * (4 + q % 4)) << (q / 4);
         }
 
         private void addResidual(int n) {

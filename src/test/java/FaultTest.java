@@ -193,6 +193,9 @@ public final class FaultTest {
         BlockPictures x = UnitBits.decoder(2, 0);
         UnitBits.key(9, 0).plain(100).plain(103).means(14).send(x, 5);
         UnitBits.next(7, 0).inter(3, -2).raw("0").copied(15).send(x, 1);
+        UnitBits.next(5, 0).inter(3, -2).raw("0").plainInNext(104).copied(14).send(x, 1);
+        Check.due("one was shown", x.shown(), 1);
+        Check.due("lines were smoothed", x.smoothed() > 0, true);
         int[] before = look(x);
         // All blocks are there and would be filtered; the data that are left undo it all.
         UnitBits.key(3, 0).plain(50).plain(53).means(14).raw("1").send(x, 5);

@@ -15,6 +15,7 @@ public final class UntouchedTest {
         stoppedDecoderStays();
         nothingToPass();
         faultDropsTheUnit();
+        unitOnItsWay();
         Check.finish();
     }
 
@@ -124,6 +125,13 @@ public final class UntouchedTest {
         });
         Check.due("states with parameters", compared[0] > 6, true);
         Check.due("states with references", compared[1] > 4, true);
+    }
+
+    private static void unitOnItsWay() {
+        Check.sentence("every other one is worked through when it ends");
+        // The first three bytes end the unit before; then one has begun, or none.
+        States.all().forEach((name, state) -> Twins.alike(name + ", a unit that has not ended", state,
+            x -> UnitBits.feed(x, 0, 0, 1, 128, 0, 0), x -> UnitBits.feed(x, 0, 0, 0)));
     }
 
     private static int faultAfter(Supplier<BlockPictures> state, UnitBits bits, int head) {
